@@ -4,7 +4,8 @@ final class AddTest {
         Check check = new Check();
         documentExample(check);
         countsEachLevelApart(check);
-        refusesOutside(check);
+        refusesOutsideWhenFresh(check);
+        refusesOutsideWhenUsed(check);
         leavesTheMap(check);
         check.end();
     }
@@ -32,25 +33,24 @@ final class AddTest {
         }
     }
 
-    private static void refusesOutside(Check check) {
+    private static void refusesOutsideWhenFresh(Check check) {
         HistEqual x = new HistEqual();
         for (int gray : Check.OUTSIDE) {
             check.due("fresh: add(" + gray + ")", x.add(gray), -1);
-            check.due("after refused add(" + gray + "): total()", x.total(), 0);
-            check.due("after refused add(" + gray + "): build()", x.build(), 0);
+            check.due("fresh, after refused add(" + gray + "): total()", x.total(), 0);
+            check.due("fresh, after refused add(" + gray + "): build()", x.build(), 0);
+            check.mapDue("fresh, after refused add(" + gray + ")", x, 0, 0, 0, 0, 0, 0, 0, 0);
         }
-        x.add(2);
-        x.add(6);
-        x.build();
-        for (int gray : Check.OUTSIDE) {
-            check.due("used: add(" + gray + ")", x.add(gray), -1);
-            check.due("used, after refused add(" + gray + "): total()", x.total(), 2);
-            check.mapDue("after refused add(" + gray + ")", x, 0, 0, 127, 127, 127, 127, 255, 255);
-        }
-        check.due("after refused adds: build()", x.build(), 2);
-        check.mapDue("after refused adds and build", x, 0, 0, 127, 127, 127, 127, 255, 255);
         for (int g = 0; g < 8; g++) {
-            check.due("after refused adds: add(" + g + ")", x.add(g), g == 2 || g == 6 ? 2 : 1);
+            check.due("after refused adds: add(" + g + ")", x.add(g), 1);
+        }
+    }
+
+    private static void refusesOutsideWhenUsed(Check check) {
+        for (int gray : Check.OUTSIDE) {
+            HistEqual x = Used.make();
+            check.due("used: add(" + gray + ")", x.add(gray), -1);
+            Used.unchanged(check, "after refused add(" + gray + ")", x);
         }
     }
 

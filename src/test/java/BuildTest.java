@@ -8,6 +8,7 @@ final class BuildTest {
         multipliesInLong(check);
         answersLevelsInUse(check);
         keepsCountsAndTotal(check);
+        buildsTheSameAgain(check);
         replacesAllValues(check);
         check.end();
     }
@@ -60,6 +61,14 @@ final class BuildTest {
         HistEqual x = withCounts(9000000, 0, 0, 18000000, 0, 0, 0, 9000000);
         check.due("36 million: build()", x.build(), 3);
         check.mapDue("36 million", x, 63, 63, 63, 191, 191, 191, 191, 255);
+        // The first count whose product with 255 is no int any more, and the one below it.
+        int edge = Integer.MAX_VALUE / 255 + 1;
+        x = withCounts(edge - 1);
+        check.due("product below the edge: build()", x.build(), 1);
+        check.mapDue("product below the edge", x, 255, 255, 255, 255, 255, 255, 255, 255);
+        x.add(7);
+        x.build();
+        check.mapDue("product at the edge", x, 254, 254, 254, 254, 254, 254, 254, 255);
     }
 
     private static void answersLevelsInUse(Check check) {
@@ -75,17 +84,31 @@ final class BuildTest {
     }
 
     private static void keepsCountsAndTotal(Check check) {
-        HistEqual x = withCounts(3, 0, 1, 0, 2);
-        for (int i = 0; i < 3; i++) {
-            check.due("again: build()", x.build(), 3);
-            check.mapDue("build again", x, 127, 127, 170, 170, 255, 255, 255, 255);
-            check.due("after build: total()", x.total(), 6);
-        }
+        HistEqual x = Used.make();
+        check.due("used: build()", x.build(), 8);
+        Used.builtAndUnchanged(check, "after build", x);
+        x = withCounts(3, 0, 1, 0, 2);
+        check.due("three levels in use: build()", x.build(), 3);
+        check.due("after build: total()", x.total(), 6);
         check.due("after build: add(0)", x.add(0), 4);
         check.due("after build: add(1)", x.add(1), 1);
         check.due("after build: add(2)", x.add(2), 2);
         check.due("after build: add(4)", x.add(4), 3);
         check.due("after build: add(7)", x.add(7), 1);
+    }
+
+    private static void buildsTheSameAgain(Check check) {
+        HistEqual x = Used.make();
+        for (int i = 0; i < 3; i++) {
+            check.due("again: build()", x.build(), 8);
+            check.mapDue("built again", x, 76, 86, 102, 122, 147, 178, 214, 255);
+        }
+        for (int gray : Check.OUTSIDE) {
+            x.add(gray);
+            check.due("after refused add(" + gray + "): build()", x.build(), 8);
+            check.mapDue("after refused add(" + gray + ")", x, 76, 86, 102, 122, 147, 178, 214, 255);
+        }
+        Used.builtAndUnchanged(check, "after many builds", x);
     }
 
     private static void replacesAllValues(Check check) {

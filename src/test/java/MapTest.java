@@ -3,6 +3,8 @@ final class MapTest {
     public static void main(String[] args) {
         Check check = new Check();
         refusesOutside(check);
+        zeroBeforeAnyBuild(check);
+        idleBuildsDoNotMatter(check);
         readsEveryValueUnsigned(check);
         keepsTheLastBuild(check);
         changesNothing(check);
@@ -18,6 +20,27 @@ final class MapTest {
             check.due("fresh: map(" + gray + ")", fresh.map(gray), -1);
             check.due("built: map(" + gray + ")", built.map(gray), -1);
         }
+    }
+
+    private static void zeroBeforeAnyBuild(Check check) {
+        HistEqual x = new HistEqual();
+        check.mapDue("nothing called", x, 0, 0, 0, 0, 0, 0, 0, 0);
+        for (int i = 0; i < 1000; i++) {
+            x.add(i % 10 - 1);
+            check.mapDue("not built", x, 0, 0, 0, 0, 0, 0, 0, 0);
+        }
+    }
+
+    private static void idleBuildsDoNotMatter(Check check) {
+        HistEqual x = new HistEqual();
+        for (int gray : Check.OUTSIDE) {
+            x.add(gray);
+            x.build();
+            check.mapDue("an idle build", x, 0, 0, 0, 0, 0, 0, 0, 0);
+        }
+        x.add(4);
+        x.build();
+        check.mapDue("built after idle builds", x, 0, 0, 0, 0, 255, 255, 255, 255);
     }
 
     private static void readsEveryValueUnsigned(Check check) {
@@ -46,21 +69,15 @@ final class MapTest {
     }
 
     private static void changesNothing(Check check) {
-        HistEqual x = new HistEqual();
-        x.add(2);
-        x.add(6);
-        x.build();
-        x.add(0);
-        for (int round = 0; round < 3; round++) {
-            for (int gray : Check.OUTSIDE) {
-                x.map(gray);
-            }
-            check.mapDue("round " + round, x, 0, 0, 127, 127, 127, 127, 255, 255);
+        for (int gray : Check.OUTSIDE) {
+            HistEqual x = Used.make();
+            x.map(gray);
+            Used.unchanged(check, "after map(" + gray + ")", x);
         }
-        check.due("after map: total()", x.total(), 3);
-        check.due("after map: build()", x.build(), 3);
-        check.mapDue("after map and build", x, 85, 85, 170, 170, 170, 170, 255, 255);
-        check.due("after map: add(0)", x.add(0), 2);
-        check.due("after map: add(1)", x.add(1), 1);
+        for (int g = 0; g < 8; g++) {
+            HistEqual x = Used.make();
+            x.map(g);
+            Used.unchanged(check, "after map(" + g + ")", x);
+        }
     }
 }
