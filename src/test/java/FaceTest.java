@@ -5,11 +5,15 @@ import java.lang.reflect.Modifier;
 import java.util.Arrays;
 import java.util.TreeSet;
 
-/** The public face of the document: these members, and no other that is not private. */
+/** The public face of the document: these members, no other that is not private, and none taken over from elsewhere. */
 final class FaceTest {
     public static void main(String[] args) {
         TreeSet<String> got = new TreeSet<>();
         got.add(HistEqual.class.toGenericString());
+        got.add("extends " + HistEqual.class.getSuperclass().getName());
+        for (Class<?> c : HistEqual.class.getInterfaces()) {
+            got.add("implements " + c.getName());
+        }
         for (Constructor<?> c : HistEqual.class.getDeclaredConstructors()) {
             addUnlessPrivate(got, c.getModifiers(), c.toString());
         }
@@ -21,6 +25,7 @@ final class FaceTest {
         }
         TreeSet<String> want = new TreeSet<>(Arrays.asList(
             "public final class HistEqual",
+            "extends java.lang.Object",
             "public HistEqual()",
             "public int HistEqual.add(int)",
             "public int HistEqual.total()",

@@ -8,6 +8,7 @@ final class WrapTest {
         oneLevel(check);
         everyLevel(check);
         replacesTheMapAfterTheWrap(check);
+        computesTheSameWayAfterTheWrap(check);
         check.end();
     }
 
@@ -96,7 +97,7 @@ final class WrapTest {
         check.due("wrapped, a level again: build()", x.build(), 2);
     }
 
-    // What the values are is free after a wrap; that a build repeats them is not.
+    // After a wrap only the range of the values is free; that a build repeats them is not.
     private static void buildsTheSameAgain(Check check, HistEqual x) {
         int answer = x.build();
         int[] values = new int[8];
@@ -112,10 +113,13 @@ final class WrapTest {
     private static void goesFullCircle(Check check, HistEqual x) {
         check.due("add(0) until -1", addMany(x, 0, MAX - 2), -1);
         check.due("count -1: build()", x.build(), 2);
+        // Each sum is between -1 and 2 and the total is past 2^32, so every value rounds to 0 from its side.
+        check.mapDue("count -1", x, 0, 0, 0, 0, 0, 0, 0, 0);
         check.due("add(0) at -1", x.add(0), 0);
         check.due("count 0 again: build()", x.build(), 2);
         check.due("add(0) at 0", x.add(0), 1);
         check.due("count 1 again: build()", x.build(), 3);
+        check.mapDue("count 1 again", x, 0, 0, 0, 0, 0, 0, 0, 0);
     }
 
     private static void everyLevel(Check check) {
@@ -147,7 +151,7 @@ final class WrapTest {
         }
     }
 
-    // The values are free here too, but not their origin: they come from counts and total, not from an older map.
+    // The values come from counts and total alone, whatever map was there before.
     private static void replacesTheMapAfterTheWrap(Check check) {
         HistEqual built = new HistEqual();
         built.add(0);
@@ -161,5 +165,33 @@ final class WrapTest {
         for (int g = 0; g < 8; g++) {
             check.due("the same counts, built before or not: map(" + g + ")", built.map(g), unbuilt.map(g));
         }
+        valuesOutsideTheRange(check, built);
+    }
+
+    // The object's one used level has just wrapped: the count is -2^31, the total 2^31.
+    private static void valuesOutsideTheRange(Check check, HistEqual x) {
+        lowBitsDue(check, "wrapped, every value -255", x, 1, 1, 1, 1, 1, 1, 1, 1);
+        check.due("wrapped: add(3)", x.add(3), 1);
+        check.due("wrapped, one of level 3: build()", x.build(), 1);
+        lowBitsDue(check, "wrapped, every value -254 and a part", x, 2, 2, 2, 2, 2, 2, 2, 2);
+    }
+
+    // The range is free after a wrap, so only the eight bits that a byte keeps of the value are compared.
+    private static void lowBitsDue(Check check, String when, HistEqual x, int... want) {
+        for (int g = 0; g < want.length; g++) {
+            check.due(when + ": low bits of map(" + g + ")", x.map(g) & 0xFF, want[g]);
+        }
+    }
+
+    // Level 7 wraps, and yet every value is within 0..255: the sums are 2^31 - 1 and, at level 7, -1.
+    private static void computesTheSameWayAfterTheWrap(Check check) {
+        HistEqual x = new HistEqual();
+        check.due("add(0) until MAX_VALUE", addMany(x, 0, MAX), MAX);
+        x.build();
+        check.mapDue("before the wrap", x, 255, 255, 255, 255, 255, 255, 255, 255);
+        check.due("add(7) until MAX_VALUE", addMany(x, 7, MAX), MAX);
+        check.due("add(7) at MAX_VALUE", x.add(7), MIN);
+        check.due("level 7 wrapped: build()", x.build(), 1);
+        check.mapDue("level 7 wrapped", x, 127, 127, 127, 127, 127, 127, 127, 0);
     }
 }
